@@ -61,6 +61,7 @@ public final class BoundaryTest {
         valueBottomIsBadForStatesOutside();
         valuesReachBothEnds();
         fractionsAreInLowestTerms();
+        numeratorsBeyond16Bits();
         bestTopAnswersInside();
         bestTopIsBadForStatesOutside();
         bestBottomAnswersInside();
@@ -405,6 +406,34 @@ public final class BoundaryTest {
                 due("bestTop(" + s + ")", x.bestTop(s), 40);
                 due("bestBottom(" + s + ")", x.bestBottom(s), 1);
             }
+        }
+    }
+
+    // Terms: rewards near an end of their range and a large determinant, so that numerators in lowest terms pass 32767
+    private static void numeratorsBeyond16Bits() {
+        int[] nineteen = {36464, 915, 36208, 915, 7120, 183, 36328, 915};
+        int[] eighteen = {36328, 915, 35816, 915, 6920, 183, 36056, 915};
+        int[] codes = {4, 125 + 3 * 5, 3 * 125 + 1, 3 * 25 + 5};
+        for (int sign = -1; sign <= 1; sign += 2) {
+            PolicySolver x = new PolicySolver();
+            for (int s = 0; s < 4; s++) {
+                for (int a = 0; a < 2; a++) {
+                    due("shares(" + s + ", " + a + ", " + codes[s] + ")", x.shares(s, a, codes[s]), true);
+                    x.reward(s, a, s == 2 ? sign * (19 - a) : sign * 20);
+                }
+            }
+            int[] best = sign < 0 ? eighteen : nineteen;
+            for (int s = 0; s < 4; s++) {
+                dueValue(x, 0, s, sign * nineteen[2 * s], nineteen[2 * s + 1]);
+                dueValue(x, 4, s, sign * eighteen[2 * s], eighteen[2 * s + 1]);
+                due("bestTop(" + s + ")", x.bestTop(s), sign * best[2 * s]);
+                due("bestBottom(" + s + ")", x.bestBottom(s), best[2 * s + 1]);
+                due("compare(0, 4, " + s + ")", x.compare(0, 4, s), sign);
+                due("compare(15, 11, " + s + ")", x.compare(15, 11, s), -sign);
+                due("compare(4, 15, " + s + ")", x.compare(4, 15, s), 0);
+            }
+            due("policy() with numerators beyond 16 bits", x.policy(), sign < 0 ? 4 : 0);
+            due("policies() with numerators beyond 16 bits", x.policies(), 8);
         }
     }
 
